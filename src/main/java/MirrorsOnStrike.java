@@ -1172,16 +1172,17 @@ public final class MirrorsOnStrike {
     }
 
     int word(int one, int look) {
-      int figure = figures[one];
+      int more = look + figures[one] > LOOK_MOST ? LOOK_MOST : look + figures[one];
+      int twice = 2 * figures[one];
       switch (kinds[one]) {
         case FLATTERER:
-          return flattered(look, figure);
+          return more;
         case SPITEFUL:
-          return spited(look, figure);
+          return look < twice ? 0 : look - twice;
         case SISTER:
-          return (flattered(look, figure) + beliefs[one]) / 2;
+          return (more + beliefs[one]) / 2;
         case BLIND:
-          return spited(beliefs[one], figure);
+          return beliefs[one] < twice ? 0 : beliefs[one] - twice;
         case SPOON:
           return LOOK_MOST - look;
         default:
@@ -1189,15 +1190,7 @@ public final class MirrorsOnStrike {
       }
     }
 
-    private static int flattered(int look, int figure) {
-      return Math.min(LOOK_MOST, look + figure);
-    }
-
-    private static int spited(int look, int figure) {
-      return Math.max(0, look - 2 * figure);
-    }
-
-    /** The mean, cut, of what a set of people say of a look. */
+    /** What a set of people say of a look, the mean, cut; -9 of nobody. */
     int mean(int set, int look) {
       int sum = 0;
       int many = 0;
@@ -1591,7 +1584,9 @@ public final class MirrorsOnStrike {
       if (folk.weeks + n > WEEKS_MOST) {
         return false;
       }
-      folk.passWeeks(n);
+      for (int week = 0; week < n; week++) {
+        folk.passWeek();
+      }
       return true;
     }
   }
