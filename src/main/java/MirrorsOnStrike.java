@@ -133,10 +133,9 @@ public final class MirrorsOnStrike {
     return (set >> one & 1) != 0;
   }
 
-  /** Whether a set of fewer, or of as many and with less bits, is to be taken. */
+  /** Sets are tried from the least bits on: of as many, the one found first stays. */
   private static boolean fewer(int set, int than) {
-    int by = Integer.bitCount(set) - Integer.bitCount(than);
-    return by < 0 || by == 0 && set < than;
+    return Integer.bitCount(set) < Integer.bitCount(than);
   }
 
   private static int leastOf(int people) {

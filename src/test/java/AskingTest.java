@@ -37,6 +37,7 @@ public final class AskingTest {
     x.believes(0, 50);
     check.is("knows, though he asks", x.knows(0), 0);
     check.is("cut", Check.told("p0050;b040;p1300;p2100;").knows(0), 6);
+    check.is("the first one", Check.told("p0050;p0050;b140;").knows(1), 1);
     check.is("alone", Check.told("p0050;b040;").knows(0), -9);
     check.is("none fits", Check.told("p0050;b040;p1100;p1200;").knows(0), -9);
     check.is("pair of least bits", Check.told("p0050;b040;p1400;p2200;p1400;p2200;").knows(0), 6);
@@ -63,6 +64,7 @@ public final class AskingTest {
     check.is("nearest, whomever he asks", x.nearest(0, 0), 16);
     x.believes(0, 50);
     check.is("whatever he believes", x.nearest(0, 0), 16);
+    check.is("the first one", Check.told("p1150;p0050;").nearest(1, 0), 1);
     MirrorsOnStrike alone = Check.told("p0050;");
     check.is("alone", alone.nearest(0, 0), -9);
     check.is("alone", alone.nearest(0, 1), -9);
@@ -77,6 +79,7 @@ public final class AskingTest {
     check.is("3", x.fair(0, 1, 3), 0);
     check.is("both", x.fair(0, 2, 0), 1);
     check.is("not so many", x.fair(0, 3, 99), 0);
+    check.is("the first one", Check.told("p1150;p0050;").fair(1, 1, 1), 1);
     check.is("all of three", Check.told(SEVEN).fair(3, 3, 99), 20);
     check.is("all of six", Check.told(SEVEN).fair(3, 6, 99), 1);
     check.refused("nobody", x, () -> x.fair(3, 0, -1), -1);
@@ -191,6 +194,7 @@ public final class AskingTest {
     check.is("of several the least", x.humble(1), 1);
     x.kind(1, 1, 3);
     check.is("4 against 3", x.humble(1), 2);
+    check.is("the first one", Check.told("p1150;p0050;a10;").humble(1), 0);
     check.is("nobody", new MirrorsOnStrike().humble(1), -9);
     check.refused("below", x, () -> x.humble(-1), -4);
     check.refused("above", x, () -> x.humble(61), -6);
@@ -202,6 +206,7 @@ public final class AskingTest {
     check.is("lowest", x.highest(0, 1), 40);
     check.is("highest of the last", x.highest(6, 0), 99);
     check.is("lowest of the last", x.highest(6, 1), 0);
+    check.is("the first one", Check.told("p1150;p0050;").highest(1, 0), 51);
     MirrorsOnStrike alone = Check.told("p0050;");
     check.is("alone", alone.highest(0, 0), -9);
     check.is("alone", alone.highest(0, 1), -9);
@@ -271,6 +276,7 @@ public final class AskingTest {
     check.is("the least of three", x.clique(), 7);
     Check.tell(x, "a36;a63;a46;a64;");
     check.is("four", x.clique(), 120);
+    check.is("all", Check.told("p0000;p0000;a01;a10;").clique(), 3);
   }
 
   private static void cut() {
@@ -288,6 +294,7 @@ public final class AskingTest {
     check.is("fewest, then least", x.cut(0, 3), 36);
     Check.tell(x, "a01;a14;a05;");
     check.is("fewest ahead of least", x.cut(0, 3), 16);
+    check.is("all others", Check.told("p0000;p0000;p0000;p0000;", "a01;a13;a02;a23;").cut(0, 3), 6);
     check.refused("one twice", x, () -> x.cut(3, 3), -1);
     check.refused("nobody", x, () -> x.cut(7, 3), -1);
     check.refused("to nobody", x, () -> x.cut(3, 7), -1);
@@ -303,6 +310,7 @@ public final class AskingTest {
     check.is("of several the least", y.panel(0, 2), 6);
     check.is("all", y.panel(0, 3), 14);
     check.is("not so many", y.panel(0, 4), -9);
+    check.is("the first one", Check.told("p0050;p0050;").panel(1, 1), 1);
     check.is("alone", Check.told("p0050;").panel(0, 1), -9);
     check.refused("nobody", x, () -> x.panel(7, 0), -1);
     check.refused("below", x, () -> x.panel(0, 0), -4);

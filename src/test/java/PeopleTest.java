@@ -226,6 +226,11 @@ public final class PeopleTest {
     check.is("ways", x.count(4), 2);
     check.is("no more", x.way(7, 0), 0);
     check.is("ways", x.count(4), 1);
+    check.is("way anew", x.way(0, 7), 1);
+    check.is("no more", x.way(0, 7), 0);
+    check.is("no more from 0", x.steps(0, 7), -9);
+    check.is("no more from 7", x.steps(7, 0), -9);
+    check.is("ways", x.count(4), 1);
     check.refused("way twice", x, () -> x.way(3, 3), -1);
     check.refused("way 8", x, () -> x.way(3, 8), -1);
     check.refused("way -1", x, () -> x.way(-1, 3), -1);

@@ -139,6 +139,8 @@ public final class WeeksTest {
     check.is("behind a week", x.spread(1), 98);
     check.is("nobody", new MirrorsOnStrike().spread(60), 0);
     check.is("one alone", Check.told("p0050;").spread(0), 0);
+    check.is("two", Check.told("p0050;p0030;").spread(0), 20);
+    check.is("two", Check.told("p0030;p0050;").spread(0), 20);
     check.refused("below", x, () -> x.spread(-1), -4);
     check.refused("above", x, () -> x.spread(61), -6);
   }
@@ -152,6 +154,7 @@ public final class WeeksTest {
     check.is("fooled and moves, then neither", x.calm(39), -9);
     MirrorsOnStrike y = Check.told("p0050;b010;");
     check.is("at once", y.calm(39), 0);
+    check.is("nothing moves", y.calm(0), 0);
     check.is("not by more", y.calm(40), -9);
     MirrorsOnStrike fall = Check.told(FALL);
     check.is("moves by 2", fall.calm(1), -9);
@@ -169,6 +172,10 @@ public final class WeeksTest {
     check.is("2", x.wanted(1, 53), 2);
     check.is("2, just", x.wanted(1, 55), 2);
     check.is("never", x.wanted(1, 56), -9);
+    MirrorsOnStrike slow = Check.told("p4185;p4061;p4028;p3021;p4088;", "a01;a03;a04;a12;a14;a20;a21;a31;a32;a42;",
+        "b000;b102;b200;b303;b400;");
+    check.is("behind 60", slow.wanted(1, 53), 60);
+    check.is("not by 60", slow.wanted(1, 54), -9);
     check.refused("nobody", x, () -> x.wanted(7, -1), -1);
     check.refused("below", x, () -> x.wanted(0, -1), -4);
     check.refused("above", x, () -> x.wanted(0, 100), -6);
