@@ -115,6 +115,8 @@ public final class AskingTest {
     check.is("of several the least", y.newEar(60), 20);
     y.asks(2, 0);
     check.is("asks already, nothing less", y.newEar(60), -9);
+    check.is("of seven the last", Check.told(SEVEN, "b600;").newEar(1), 60);
+    check.is("alone", Check.told("p0000;b099;").newEar(1), -9);
     check.is("nobody", new MirrorsOnStrike().newEar(1), -9);
     check.refused("below", x, () -> x.newEar(-1), -4);
     check.refused("above", x, () -> x.newEar(61), -6);
@@ -154,6 +156,9 @@ public final class AskingTest {
     x.asks(0, 3);
     check.is("blind", x.barber(0, 66), 0);
     check.is("never", x.barber(0, 67), -9);
+    MirrorsOnStrike low = Check.told("p0050;p2530;a01;");
+    check.is("a spiteful one's 89", low.barber(0, 89), 49);
+    check.is("no look above 99", low.barber(0, 90), -9);
     check.refused("nobody", x, () -> x.barber(4, -1), -1);
     check.refused("below", x, () -> x.barber(1, -1), -4);
     check.refused("above", x, () -> x.barber(1, 100), -6);
@@ -195,6 +200,8 @@ public final class AskingTest {
     x.kind(1, 1, 3);
     check.is("4 against 3", x.humble(1), 2);
     check.is("the first one", Check.told("p1150;p0050;a10;").humble(1), 0);
+    check.is("of seven the spiteful", Check.told(SEVEN, "a62;").humble(1), 2);
+    check.is("a blind one would be farther", Check.told(SEVEN, "a34;").humble(1), -9);
     check.is("nobody", new MirrorsOnStrike().humble(1), -9);
     check.refused("below", x, () -> x.humble(-1), -4);
     check.refused("above", x, () -> x.humble(61), -6);

@@ -69,6 +69,7 @@ public final class PlacesTest {
     x.hangs(1, 1);
     check.is("a spoon is a glance", x.unseen(0), 1);
     check.is("line", Check.told(LINE).unseen(7), 255);
+    check.is("a spoon at 0", Check.told(LINE, "g01;").unseen(7), 254);
     check.refused("8", x, () -> x.unseen(8), -1);
     check.refused("-1", x, () -> x.unseen(-1), -1);
   }

@@ -96,6 +96,7 @@ public final class RowTest {
     most(x, -9, -9, 0, 50);
     most(x, 0, 1, 99, 50);
     most(x, 1, 96, 99, 99);
+    most(Check.told("p2550;"), 0, 90);
     x.comes(4, 0, 50);
     x.comes(5, 0, 50);
     x.comes(0, 0, 50);
@@ -119,6 +120,19 @@ public final class RowTest {
     photographed("p0099;p0000;p0099;", 99, new int[] {0, 1, 2}, 99, 99, 99);
     photographed("p0000;p0010;p0020;p0030;p0040;p0050;p0060;", 7, new int[] {6, 5, 4, 3, 2, 1, 0}, 61, 51, 41, 31, 21, 11, 1);
     photographed("p0010;b090;", 0, new int[] {0}, 10);
+    photosOfFewer();
+  }
+
+  private static void photosOfFewer() {
+    MirrorsOnStrike x = Check.told("p0010;p0050;");
+    x.image();
+    x.comes(0, 0, 99);
+    Check.rowOf(x, 10, 50, 0);
+    check.is("three", x.photos(-1), 99);
+    x.restore();
+    Check.rowOf(x, 50, 11);
+    check.is("two again", x.photos(-1), 1);
+    check.is("the first one's", x.photos(0), 1);
   }
 
   private static void photographed(String text, int least, int[] whose, int... values) {
