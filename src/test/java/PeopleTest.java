@@ -120,6 +120,12 @@ public final class PeopleTest {
     check.is("thing at 8", Check.tell(x, "g80;"), -2000);
     check.is("eighth", Check.tell(x, "p0050;".repeat(8)), -2042);
     check.is("first of two", Check.tell(x, "w01;g09;w99;"), -2004);
+    check.is("no refusals", Check.refusalsOf(x), 0);
+    tooManyWeeks();
+  }
+
+  private static void tooManyWeeks() {
+    MirrorsOnStrike x = new MirrorsOnStrike();
     for (int i = 0; i < 3; i++) {
       check.is("288 weeks", Check.tell(x, "n9;".repeat(32)), 32);
     }
