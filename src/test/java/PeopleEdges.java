@@ -39,8 +39,10 @@ final class PeopleEdges {
     weekMeanCut();
     weekAtOnce();
     weekTillThen();
+    weeksToldSoFar();
     saysWho();
     saysOneTwice();
+    saysNow();
     saysOfWho();
     saysOfLooks();
     saysOfSeveral();
@@ -365,6 +367,21 @@ final class PeopleEdges {
     edge.refused("the 1000th", () -> Edge.weeksMore(Edge.alone(), 999), MirrorsOnStrike::week, -6);
   }
 
+  private void weeksToldSoFar() {
+    edge.of(11, "WEEKS told so far (0 .. 999)");
+    MirrorsOnStrike x = Check.told(Edge.FALL);
+    edge.is("at first", x.count(1), 0);
+    edge.is("week()", x.week(), 1);
+    edge.is("behind week()", x.count(1), 1);
+    x.belief(0, 60);
+    x.lots(20, 5, 0);
+    edge.is("behind what is in mind alone", x.count(1), 1);
+    Check.tell(x, "n0;n9;");
+    edge.is("behind a town", x.count(1), 10);
+    edge.is("image()", x.image(), 10);
+    edge.is("as many as there may be", Edge.weeksMore(x, 989).count(1), 999);
+  }
+
   // ---- Promise 13
 
   private void saysWho() {
@@ -384,6 +401,23 @@ final class PeopleEdges {
       edge.refused("says(" + who + ", " + who + ")", Edge::seven, x -> x.says(who, who), -1);
     }
     edge.refused("says(0, 0), nobody there", Edge::nobody, x -> x.says(0, 0), -1);
+  }
+
+  private void saysNow() {
+    edge.of(13, "FACE SAID: what one SAYS of another now");
+    MirrorsOnStrike x = Check.told("p0000;p0099;p3999;p4900;p5000;b044;b155;");
+    int[][] due = {{0, 99}, {0, 99}, {54, 99}, {0, 0}, {99, 0}};
+    for (int one = 0; one < due.length; one++) {
+      for (int other = 0; other < 2; other++) {
+        if (one != other) {
+          edge.is("says(" + one + ", " + other + ")", x.says(one, other), due[one][other]);
+        }
+      }
+    }
+    x.believes(2, 0);
+    x.believes(3, 99);
+    edge.is("says(2, 0), who believes otherwise", x.says(2, 0), 4);
+    edge.is("says(3, 0), who believes otherwise", x.says(3, 0), 81);
   }
 
   // ---- Promise 14, and what each kind says

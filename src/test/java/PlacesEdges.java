@@ -29,6 +29,7 @@ final class PlacesEdges {
     unseenWhere();
     unseenOwnAside();
     unseenFewAndMany();
+    unseenWhatHangs();
     coverWhere();
     coverFewerThanNow();
     coverOfSeveral();
@@ -276,6 +277,19 @@ final class PlacesEdges {
     edge.is("all", allJoined().unseen(7), 255);
     edge.is("a line", line().unseen(0), 255);
     edge.is("glasses everywhere", Check.told(Edge.LINE, GLASSES).unseen(0), 1);
+  }
+
+  private void unseenWhatHangs() {
+    edge.of(34, "one can come to without any GLANCE (its own aside)");
+    for (int hung = 0; hung < 8; hung++) {
+      MirrorsOnStrike x = line();
+      x.hangs(hung, 1);
+      for (int place = 0; place < 8; place++) {
+        int below = (1 << hung) - 1;
+        int due = place < hung ? below : place > hung ? 255 - below - (1 << hung) : 255;
+        edge.is("unseen(" + place + "), a spoon at " + hung, x.unseen(place), due);
+      }
+    }
   }
 
   // ---- Promise 35

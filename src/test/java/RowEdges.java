@@ -16,6 +16,7 @@ final class RowEdges {
     thiefEmptyAndFull();
     thiefNothingSaid();
     thiefLooks();
+    thiefRowStays();
     tellsMostWhat();
     tellsMostMoreNumbers();
     tellsMostNobody();
@@ -23,13 +24,15 @@ final class RowEdges {
     tellsMostKinds();
     tellsMostOfSeveral();
     tellsMostNoneFits();
+    tellsMostRowStays();
     photosBelow();
     photosNotAsMany();
     photosSeveral();
     photosEmptyAndFull();
     photosWhose();
     photosFirstWay();
-    rowStays();
+    photosEachAnother();
+    photosRowStays();
     rowValues();
     rowTwelve();
     rowSeveral();
@@ -42,6 +45,7 @@ final class RowEdges {
     lotsWhat();
     lotsSeveral();
     lotsSeeds();
+    lotsWithoutSign();
     lotsHimselfAside();
     lotsMoreThanFive();
     lotsInMind();
@@ -128,6 +132,24 @@ final class RowEdges {
     thief("two say otherwise", row("p0010;p0010;", 10, 11), 0, -9, 0);
   }
 
+  /** Behind the call the ROW is as it was: judge() tells no one who believes otherwise. */
+  private void stays(Edge.Call call) {
+    for (int what = 0; what < 3; what++) {
+      MirrorsOnStrike x = row(Edge.SEVEN, 50, 40, 30, 60, 70, 20, 99).get();
+      call.on(x, what);
+      edge.is("in the ROW", x.count(6), 7);
+      edge.is("judge()", x.judge(), -9);
+      MirrorsOnStrike full = row("", 1, 2, 3, 4, 5, 6, 7, 8, 9, 10, 11, 12).get();
+      call.on(full, what);
+      edge.is("in the ROW of 12, refused", full.count(6), 12);
+    }
+  }
+
+  private void thiefRowStays() {
+    edge.of(28, "THIEF by the ROW (it stays)");
+    stays(MirrorsOnStrike::thief);
+  }
+
   // ---- Promise 29
 
   private void tellsMostWhat() {
@@ -194,6 +216,11 @@ final class RowEdges {
     most("two say otherwise", row("p0050;p0050;", 1, 2), -9, -9);
     most("a flatterer's 8", row("p1950;", 8), -9, -9);
     most("a blind one says otherwise", row("p4050;p0050;", 51), -9, -9);
+  }
+
+  private void tellsMostRowStays() {
+    edge.of(29, "TELLS MOST by the ROW (it stays)");
+    stays(MirrorsOnStrike::tellsMost);
   }
 
   // ---- Promise 30
@@ -272,17 +299,25 @@ final class RowEdges {
     edge.is("the other of the same", same.photos(2), 1);
   }
 
-  private void rowStays() {
+  private void photosRowStays() {
     edge.of(30, "PHOTOS by the ROW (it stays)");
+    stays((x, what) -> x.photos(what - 1));
     Supplier<MirrorsOnStrike> made = row("p0050;p1040;p0050;", 50, 40, 50);
     MirrorsOnStrike x = made.get();
-    for (int what = 0; what < 3; what++) {
-      x.thief(what);
-      x.tellsMost(what % 2);
-      x.photos(what - 1);
-      edge.is("in the ROW", x.count(6), 3);
-    }
+    x.photos(-1);
+    x.photos(2);
     edge.same("nothing is otherwise", x, made.get());
+  }
+
+  private void photosEachAnother() {
+    edge.of(30, "each of PEOPLE gets another one so that all differences together are least");
+    MirrorsOnStrike x = row("p0050;p0050;p0050;", 50, 0, 99).get();
+    edge.is("one alone gets the best one", x.photos(-1), 99);
+    int all = 0;
+    for (int one = 0; one < 3; one++) {
+      all += 1 << x.photos(one);
+    }
+    edge.is("each another one", all, 7);
   }
 
   // ---- Promise 55
@@ -441,6 +476,19 @@ final class RowEdges {
           edge.is(town + " lots(" + n + ", " + z + ", 0)", x.lots(n, z, 0), due[0]);
           edge.is(town + " lots(" + n + ", " + z + ", 1)", x.lots(n, z, 1), due[1]);
         }
+      }
+    }
+  }
+
+  /** The sign of a seed goes into no other bit of the next ones, and into no draw. */
+  private void lotsWithoutSign() {
+    edge.of(58, "a DRAW below n is (z without its sign's bit, over 65536, cut) modulo n");
+    String town = "p0350;p1440;p2530;p3460;p4270;p5020;p0099;a01;b045;b198;";
+    for (int z : new int[] {0, 1, 99, 65535, 65536, 1234567890, Edge.MOST}) {
+      for (int n : new int[] {1, 20}) {
+        int due = byHand(town, n, z)[0];
+        edge.is("lots(" + n + ", " + z + ", 0)", Check.told(town).lots(n, z, 0), due);
+        edge.is("lots(" + n + ", with a sign, 0)", Check.told(town).lots(n, z ^ Edge.LEAST, 0), due);
       }
     }
   }

@@ -285,7 +285,12 @@ final class StateEdges {
     MirrorsOnStrike x = Edge.alone();
     x.row(1);
     Edge.feed(x, "n");
+    x.hangs(-1, 0);
+    x.hangs(0, -1);
     x.image();
+    edge.is("REFUSALS -1 behind image()", x.count(11), 1);
+    edge.is("in the ROW behind image()", x.count(6), 1);
+    edge.is("letters behind image()", x.count(5), 1);
     x.row(50);
     Edge.feed(x, "7;");
     x.hangs(8, 0);
@@ -293,8 +298,8 @@ final class StateEdges {
     x.restore();
     edge.is("in the ROW", x.count(6), 2);
     edge.is("letters", x.count(5), 3);
-    edge.is("REFUSALS -1", x.count(11), 1);
-    edge.is("REFUSALS -2", x.count(12), 1);
+    edge.is("REFUSALS -1", x.count(11), 2);
+    edge.is("REFUSALS -2", x.count(12), 2);
     edge.is("judge()", x.judge(), 0);
     edge.is("town()", x.town(), 1);
     edge.is("WEEKS", x.count(1), 7);

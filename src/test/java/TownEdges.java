@@ -27,6 +27,7 @@ final class TownEdges {
     behindAllAhead();
     kindOutOfRange();
     placeOutOfRange();
+    lessThePlace();
     thingOutOfRange();
     noSuchOne();
     oneTwice();
@@ -35,6 +36,7 @@ final class TownEdges {
     digitsAtTheirEnds();
     weeksOfADigit();
     toldAgain();
+    askedAgain();
     faultLeavesAll();
     faultOfFormLeavesAll();
     nothingCounted();
@@ -244,6 +246,15 @@ final class TownEdges {
     }
   }
 
+  private void lessThePlace() {
+    edge.of(3, "-2000 less the place");
+    for (int ahead = 0; ahead < 31; ahead++) {
+      town("n0;".repeat(ahead) + "w88;", -2000 - 3 * ahead);
+      town("n0;".repeat(ahead) + "w8", -1000 - 3 * ahead - 2);
+    }
+    town("w88;".repeat(24), -2000);
+  }
+
   private void thingOutOfRange() {
     edge.of(3, "\"g\" a PLACE, what is there (a digit each)");
     int[] glances = {0, 1, 3, 7};
@@ -330,7 +341,7 @@ final class TownEdges {
   }
 
   private void toldAgain() {
-    edge.of(3, "the first ASKS the other, or, told again, not");
+    edge.of(3, "\"w\" two PLACES (a digit each): a WAY, or, told again, none");
     MirrorsOnStrike x = Edge.seven();
     for (int due : new int[] {1, 0, 1}) {
       edge.is("town()", Check.tell(x, "a06;w07;"), 2);
@@ -341,6 +352,18 @@ final class TownEdges {
     edge.is("told twice in one text", Check.tell(x, "a06;w70;a06;w70;"), 4);
     edge.is("ASKS", x.person(0, 4), 64);
     edge.is("WAYS", x.count(4), 1);
+  }
+
+  private void askedAgain() {
+    edge.of(3, "\"a\" two PEOPLE (a digit each): the first ASKS the other, or, told again, not");
+    MirrorsOnStrike x = Check.told("p0000;p0000;a01;");
+    int[][] due = {{2, 0}, {0, 0}, {0, 1}, {2, 1}, {2, 0}};
+    String[] told = {"n0;", "a01;", "a10;", "a01;", "a10;"};
+    for (int i = 0; i < told.length; i++) {
+      Check.tell(x, told[i]);
+      edge.is("ASKS of 0 behind " + told[i], x.person(0, 4), due[i][0]);
+      edge.is("ASKS of 1 behind " + told[i], x.person(1, 4), due[i][1]);
+    }
   }
 
   private void faultLeavesAll() {

@@ -380,6 +380,8 @@ final class WeeksEdges {
     edge.is("less by one", Check.told("p0050;b048;p1100;").newEar(1), 1);
     edge.is("as much", Check.told("p0050;b049;p1100;").newEar(1), -9);
     edge.is("more", Check.told("p0050;b049;p1200;").newEar(1), -9);
+    edge.is("less than as he asks now", Check.told("p0050;p1900;p0000;a01;").newEar(1), 2);
+    edge.is("as much as he asks now", Check.told("p0050;b000;p0000;p0000;a01;").newEar(1), -9);
   }
 
   private void newEarNone() {
@@ -473,6 +475,7 @@ final class WeeksEdges {
     edge.is("one there", Check.told("p1900;b099;").humble(60), -9);
     edge.is("behind no WEEK", Check.told("p0050;p1100;a01;").humble(0), -9);
     edge.is("less by one", Check.told("p0050;p1100;a01;").humble(1), 1);
+    edge.is("less than it would be", Check.told("p0050;p1900;p1800;a01;a02;").humble(1), 1);
     edge.is("0 already", Check.told("p0050;b000;p1000;a01;").humble(1), -9);
     edge.is("nobody asks him", Check.told("p0050;p1900;").humble(60), -9);
     edge.is("as much", Check.told("p0050;p4151;a01;").humble(1), -9);
