@@ -300,6 +300,14 @@ final class WeeksEdges {
     edge.is("seven", Check.told(seven, "a01;a12;a23;a34;a45;a56;a60;").round(), 7);
     edge.is("three and four", Check.told(seven, "a01;a12;a20;a34;a45;a56;a63;").round(), 12);
     edge.is("two and five", Check.told(seven, "a01;a10;a23;a34;a45;a56;a62;").round(), 10);
+    edge.is("five who ask several", eightByFive().round(), 8);
+  }
+
+  /** Five can take turns at no more than six; each believes one more than 50 if two of those he asks do. */
+  private static MirrorsOnStrike eightByFive() {
+    String five = "p4052;p4052;p4052;p4052;p4053;p0050;";
+    String asks = "a01;a02;a04;a12;a13;a14;a20;a23;a24;a30;a31;a34;a40;a41;a42;a43;";
+    return Check.told(five, asks, "a05;a15;a25;a35;a45;b051;b151;b250;b350;b450;");
   }
 
   private void roundFromThen() {
